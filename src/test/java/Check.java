@@ -1,0 +1,80 @@
+import java.util.NoSuchElementException;
+
+/** What the tests share: feeding texts, and counting the answers that are not as due. */
+final class Check {
+    private final String test;
+    private int wrong;
+
+    Check(String test) {
+        this.test = test;
+    }
+
+    void due(String what, long got, long want) {
+        if (got != want) {
+            wrong++;
+            System.out.println(test + ": " + what + " answered " + got + ", due is " + want);
+        }
+    }
+
+    void yes(String what, boolean got) {
+        due(what, got ? 1 : 0, 1);
+    }
+
+    /** An answer together with what trouble() says behind it. */
+    void due(String what, TwoMinds x, long got, long want, int trouble) {
+        due(what, got, want);
+        due("trouble() behind " + what, x.trouble(), trouble);
+    }
+
+    void due(String what, TwoMinds x, boolean got, boolean want, int trouble) {
+        due(what, x, got ? 1 : 0, want ? 1 : 0, trouble);
+    }
+
+    void noneLed(TwoMinds x, int i) {
+        boolean thrown = false;
+        try {
+            x.led(i);
+        } catch (NoSuchElementException e) {
+            thrown = true;
+        }
+        yes("led(" + i + ") throws NoSuchElementException", thrown);
+    }
+
+    void end() {
+        System.out.println(test + ": " + (wrong == 0 ? "all answers are as due" : wrong + " are wrong"));
+        if (wrong != 0) {
+            System.exit(1);
+        }
+    }
+
+    /** Feeds a text, padded with blanks. */
+    static int feed(TwoMinds x, String text) {
+        int tape = 0;
+        for (int at = 0; at < text.length(); at += 20) {
+            tape = x.feed(number(text, at), number(text, at + 4), number(text, at + 8),
+                number(text, at + 12), number(text, at + 16));
+        }
+        return tape;
+    }
+
+    static int book(TwoMinds x, String text) {
+        feed(x, text);
+        return x.book(text.length());
+    }
+
+    static TwoMinds house(String text) {
+        TwoMinds x = new TwoMinds();
+        if (book(x, text) < 2) {
+            throw new IllegalStateException("fault " + x.fault() + " at " + x.where() + " in " + text);
+        }
+        return x;
+    }
+
+    private static int number(String text, int at) {
+        int number = 0;
+        for (int k = at; k < at + 4; k++) {
+            number = number << 8 | (k < text.length() ? text.charAt(k) & 255 : 32);
+        }
+        return number;
+    }
+}
