@@ -41,9 +41,16 @@ final class Check {
     }
 
     void end() {
-        System.out.println(test + ": " + (wrong == 0 ? "all answers are as due" : wrong + " are wrong"));
+        end(false);
+    }
+
+    void end(boolean quiet) {
         if (wrong != 0) {
+            System.out.println(test + ": " + wrong + " answers are not as due");
             System.exit(1);
+        }
+        if (!quiet) {
+            System.out.println(test + ": all answers are as due");
         }
     }
 
