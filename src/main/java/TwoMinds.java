@@ -9,6 +9,10 @@ public final class TwoMinds {
     // What is answered where a thing could be, but did not come about.
     private static final int DIDNT = -2;
 
+    // What is answered to a refused call where NONE could be a true answer.
+    private static final int REFUSED_INT = -2147483648;
+    private static final long REFUSED_LONG = -9223372036854775808L;
+
     private static final int NO_SUCH = 1;
     private static final int BAD_NUMBER = 2;
     private static final int NO_ROOM = 3;
@@ -72,7 +76,8 @@ public final class TwoMinds {
         told = spare;
         spare = old;
         booked = true;
-        bar.fit(told, told.cuts());
+        told.markTurns();
+        bar.fit(told);
         trials.fit(told);
         billet.clear();
         blades.clear();
@@ -101,16 +106,16 @@ public final class TwoMinds {
     }
 
     public boolean clay(int i, int j, int t) {
-        if (!bar.has(i, j)) {
+        if (!bar.cells.has(i, j)) {
             return refuses(NO_SUCH);
         }
         if (!within(t, 0, MOST_CLAY)) {
             return refuses(BAD_NUMBER);
         }
-        if (bar.tenth() != 0) {
+        if (bar.cells.tenth() != 0) {
             return refuses(NOT_SO);
         }
-        bar.setClay(i, j, t);
+        bar.cells.setClay(i, j, t);
         return agrees();
     }
 
@@ -121,10 +126,10 @@ public final class TwoMinds {
         if (!within(n, 1, MOST_GO)) {
             return refuse(BAD_NUMBER);
         }
-        if (bar.tenth() + n > LAST_TENTH) {
+        if (bar.cells.tenth() + n > LAST_TENTH) {
             return refuse(NO_ROOM);
         }
-        if (bar.isCracked()) {
+        if (bar.cells.isCracked()) {
             return refuse(NOT_SO);
         }
         return answer(bar.coolFor(n));
@@ -134,7 +139,7 @@ public final class TwoMinds {
         if (!booked) {
             return refuses(NO_SUCH);
         }
-        if (!within(tenth, 0, bar.tenth())) {
+        if (!within(tenth, 0, bar.cells.tenth())) {
             return refuses(BAD_NUMBER);
         }
         bar.goBackTo(tenth);
@@ -142,49 +147,49 @@ public final class TwoMinds {
     }
 
     public int cell(int i, int j, int what) {
-        if (!bar.has(i, j)) {
+        if (!bar.cells.has(i, j)) {
             return NONE;
         }
         switch (what) {
             case 0:
-                return bar.heatOf(i, j);
+                return bar.cells.heatOf(i, j);
             case 1:
-                return bar.kindOf(i, j);
+                return bar.cells.kindOf(i, j);
             case 2:
-                return bar.clayOf(i, j);
+                return bar.cells.clayOf(i, j);
             case 3:
-                return bar.sizeOf(i, j);
+                return bar.cells.sizeOf(i, j);
             case 4:
-                return bar.turnOf(i, j);
+                return bar.cells.turnOf(i, j);
             default:
                 return NONE;
         }
     }
 
     public long pull(int i, int j) {
-        if (!bar.has(i, j)) {
+        if (!bar.cells.has(i, j)) {
             refuse(NO_SUCH);
-            return Long.MIN_VALUE;
+            return REFUSED_LONG;
         }
         latestTrouble = 0;
-        return bar.pullOf(i, j);
+        return bar.cells.pullOf(i, j);
     }
 
     public int curve(int i) {
-        if (!bar.has(i, 0)) {
+        if (!bar.cells.has(i, 0)) {
             refuse(NO_SUCH);
-            return Integer.MIN_VALUE;
+            return REFUSED_INT;
         }
-        return answer(bar.curveOf(i));
+        return answer(bar.cells.curveOf(i));
     }
 
     public int bend(int what) {
         if (!booked || !within(what, 0, 2)) {
             refuse(NO_SUCH);
-            return Integer.MIN_VALUE;
+            return REFUSED_INT;
         }
         if (what == 0) {
-            return answer(bar.bendNow());
+            return answer(bar.cells.bendNow());
         }
         return answer(what == 1 ? bar.leastBend() : bar.greatestBend());
     }
@@ -193,40 +198,40 @@ public final class TwoMinds {
         if (!booked || !within(what, 0, 2)) {
             return refuse(NO_SUCH);
         }
-        if (!bar.isCracked()) {
+        if (!bar.cells.isCracked()) {
             return answer(DIDNT);
         }
         if (what == 0) {
-            return answer(bar.tenth());
+            return answer(bar.cells.tenth());
         }
-        return answer(what == 1 ? bar.crackAlong() : bar.crackAcross());
+        return answer(what == 1 ? bar.cells.crackAlong() : bar.cells.crackAcross());
     }
 
     public int cold() {
         if (!booked) {
             return refuse(NO_SUCH);
         }
-        return answer(bar.isCold() ? 1 : 0);
+        return answer(bar.cells.isCold() ? 1 : 0);
     }
 
     public int cloud(int i, int hard) {
-        if (!bar.has(i, 0)) {
+        if (!bar.cells.has(i, 0)) {
             return refuse(NO_SUCH);
         }
         if (!isHardness(hard)) {
             return refuse(BAD_NUMBER);
         }
-        return answer(bar.cloudOf(i, hard));
+        return answer(bar.cells.cloudOf(i, hard));
     }
 
     public int chip(int i, int hard) {
-        if (!bar.has(i, 0)) {
+        if (!bar.cells.has(i, 0)) {
             return refuse(NO_SUCH);
         }
         if (!isHardness(hard)) {
             return refuse(BAD_NUMBER);
         }
-        return answer(bar.chipFrom(i, hard));
+        return answer(bar.cells.chipFrom(i, hard));
     }
 
     // ---- clay, odds, why
@@ -360,11 +365,11 @@ public final class TwoMinds {
     public long odds(int smith, int signs) {
         if (!booked || !within(smith, NONE, told.smiths.count() - 1)) {
             refuse(NO_SUCH);
-            return Long.MIN_VALUE;
+            return REFUSED_LONG;
         }
         if (!isSigns(signs)) {
             refuse(BAD_NUMBER);
-            return Long.MIN_VALUE;
+            return REFUSED_LONG;
         }
         latestTrouble = 0;
         return smith == NONE ? told.productOfAll(signs) : told.productOf(smith, signs);
@@ -393,30 +398,30 @@ public final class TwoMinds {
     }
 
     public int led(int i) throws NoSuchElementException {
-        if (!within(i, 0, bar.turned() - 1)) {
+        if (!within(i, 0, bar.cells.turned() - 1)) {
             throw new NoSuchElementException();
         }
-        return bar.turnedCell(i);
+        return bar.cells.turnedCell(i);
     }
 
     public int size(int what) {
         switch (what) {
             case 0:
-                return bar.cuts();
+                return bar.cells.cuts();
             case 1:
-                return bar.width();
+                return bar.cells.width();
             case 7:
-                return bar.tenth();
+                return bar.cells.tenth();
             case 8:
-                return bar.isCracked() ? 1 : 0;
+                return bar.cells.isCracked() ? 1 : 0;
             case 9:
-                return bar.turned();
+                return bar.cells.turned();
             case 10:
                 return blades.count();
             case 11:
                 return taped;
             case 12:
-                return bar.wholePull();
+                return bar.cells.wholePull();
             default:
                 return linesTold(what);
         }
@@ -459,8 +464,8 @@ public final class TwoMinds {
 
     /** The trials, clayed as cut 0 of the bar is now. */
     private Trials trialsOfBar() {
-        for (int j = 0; j < bar.width(); j++) {
-            trials.setClay(j, bar.clayOf(0, j));
+        for (int j = 0; j < bar.cells.width(); j++) {
+            trials.setClay(j, bar.cells.clayOf(0, j));
         }
         return trials;
     }
@@ -497,7 +502,7 @@ public final class TwoMinds {
     }
 
     private boolean isWidth(int width) {
-        return within(width, 0, bar.width());
+        return within(width, 0, bar.cells.width());
     }
 
     private static boolean isHeat(int v) {
@@ -599,6 +604,18 @@ public final class TwoMinds {
         final Lines reds = new Lines(6, 2);
         final Lines stones = new Lines(6, 2);
         final Lines smiths = new Lines(5, SIGNS);
+        private int lowestBelow;
+        private int highestBelow;
+
+        /** Marks between which heats alone a cell can turn: most falls need no look at the turns. */
+        void markTurns() {
+            lowestBelow = MOST_HEAT;
+            highestBelow = 0;
+            for (int t = 0; t < turns.count(); t++) {
+                lowestBelow = Math.min(lowestBelow, turns.at(t, BELOW));
+                highestBelow = Math.max(highestBelow, turns.at(t, BELOW));
+            }
+        }
 
         void clear() {
             bars.clear();
@@ -610,8 +627,18 @@ public final class TwoMinds {
             smiths.clear();
         }
 
-        int cuts() {
-            return bars.at(0, LONG);
+        /** The kind to which a cell of the first one turns that falls so; the first one if to none. */
+        int kindOfFall(int ahead, int now) {
+            if (now >= ahead || now >= highestBelow || ahead < lowestBelow) {
+                return 0;
+            }
+            for (int t = 0; t < turns.count(); t++) {
+                int below = turns.at(t, BELOW);
+                if (below > now && below <= ahead && turns.at(t, DROP) <= ahead - now) {
+                    return turns.at(t, TO_KIND);
+                }
+            }
+            return 0;
         }
 
         int redOf(int heat, int light) {
@@ -626,12 +653,12 @@ public final class TwoMinds {
 
         int stonesThatShow(int signs) {
             int best = NONE;
-            int fewest = Integer.MAX_VALUE;
+            int fewest = 0;
             int end = 1 << stones.count();
             // Upwards, so that of like ones the lesser number is met first.
             for (int some = 0; some < end; some++) {
                 int days = daysOf(some);
-                if (days < fewest && (signs & ~signsOf(some)) == 0) {
+                if ((best == NONE || days < fewest) && (signs & ~signsOf(some)) == 0) {
                     fewest = days;
                     best = some;
                 }
@@ -1044,32 +1071,31 @@ public final class TwoMinds {
         }
     }
 
-    /** Cuts of cells that cool in water: the bar itself, or the one cut of a trial. */
-    private static final class Bar {
+    /** Cuts of cells that cool in water, turn, pull and crack. */
+    private static final class Cells {
         private static final int MOST_CUTS = 8;
         private static final int MOST_WIDE = 5;
-        private static final int CELLS = MOST_CUTS * MOST_WIDE;
+        private static final int ROOM = MOST_CUTS * MOST_WIDE;
         private static final int COLD_HEAT = 99;
 
-        private final int[] heats = new int[CELLS];
-        private final int[] heatsAhead = new int[CELLS];
-        private final int[] kindsNow = new int[CELLS];
-        private final int[] clays = new int[CELLS];
-        private final int[] sizes = new int[CELLS];
-        private final int[] turnTenths = new int[CELLS];
-        private final int[] turnOrder = new int[CELLS];
+        private final int[] clays = new int[ROOM];
+        private final int[] opens = new int[ROOM];
+        private final int[] kindsNow = new int[ROOM];
+        private final int[] rooms = new int[ROOM];
+        private final int[] mostPulls = new int[ROOM];
+        private final int[] sizes = new int[ROOM];
+        private final int[] turnTenths = new int[ROOM];
+        private final int[] turnOrder = new int[ROOM];
+        private int[] heats = new int[ROOM];
+        private int[] heatsAhead = new int[ROOM];
         private Book book = new Book();
         private int cuts;
         private int width;
         private int allSquared;
         private int water;
-        private int firstHeat;
         private int tenth;
         private int turned;
         private int crackedCell = NONE;
-        private int bendNow;
-        private int leastBend;
-        private int greatestBend;
 
         void fit(Book told, int cutsWanted) {
             book = told;
@@ -1078,23 +1104,23 @@ public final class TwoMinds {
             water = told.waters.at(0, Book.WATER);
             allSquared = 0;
             for (int j = 0; j < width; j++) {
-                allSquared += across(j) * across(j);
+                int x = 2 * j - (width - 1);
+                allSquared += x * x;
             }
             Arrays.fill(clays, 0);
+            Arrays.fill(opens, 100);
             heatTo(0);
         }
 
         void heatTo(int v) {
-            firstHeat = v;
             Arrays.fill(heats, v);
             Arrays.fill(kindsNow, 0);
+            Arrays.fill(rooms, book.kinds.at(0, Book.ROOM));
+            Arrays.fill(mostPulls, book.kinds.at(0, Book.BEARS) * wholePull());
             Arrays.fill(turnTenths, DIDNT);
             tenth = 0;
             turned = 0;
             crackedCell = NONE;
-            bendNow = 0;
-            leastBend = 0;
-            greatestBend = 0;
             for (int i = 0; i < cuts; i++) {
                 sizeCut(i);
             }
@@ -1107,63 +1133,43 @@ public final class TwoMinds {
         void setClay(int i, int j, int t) {
             if (has(i, j)) {
                 clays[i * MOST_WIDE + j] = t;
-            }
-        }
-
-        /** How many tenths went till it cracked. */
-        int coolFor(int n) {
-            int went = 0;
-            while (went < n && crackedCell == NONE) {
-                coolOnce();
-                went++;
-            }
-            return went;
-        }
-
-        // Clay changes in tenth 0 alone, so that the same tenths come about once more.
-        void goBackTo(int earlier) {
-            if (earlier != tenth) {
-                heatTo(firstHeat);
-                coolFor(earlier);
+                opens[i * MOST_WIDE + j] = Math.max(0, 100 - book.waters.at(0, Book.SHIELD) * t);
             }
         }
 
         /** One tenth more: whether any heat moved in it. */
         boolean coolOnce() {
-            boolean moves = moveHeats();
+            int[] older = heatsAhead;
+            heatsAhead = heats;
+            heats = older;
             tenth++;
-            bendNow = 0;
+            boolean moves = false;
             for (int i = 0; i < cuts; i++) {
+                moves |= coolCut(i);
                 for (int j = 0; j < width; j++) {
-                    turnCell(i * MOST_WIDE + j);
+                    int here = i * MOST_WIDE + j;
+                    int kind = kindsNow[here] == 0 ? book.kindOfFall(heatsAhead[here], heats[here]) : 0;
+                    if (kind != 0) {
+                        turnCell(here, kind);
+                    }
                 }
                 sizeCut(i);
-                int curve = curveOf(i);
-                bendNow += curve;
-                strainCut(i, curve);
+                strainCut(i);
             }
-            leastBend = Math.min(leastBend, bendNow);
-            greatestBend = Math.max(greatestBend, bendNow);
             return moves;
         }
 
-        private boolean moveHeats() {
-            System.arraycopy(heats, 0, heatsAhead, 0, CELLS);
-            int flow = book.waters.at(0, Book.FLOW);
+        private boolean coolCut(int i) {
             int pulls = book.waters.at(0, Book.PULLS);
-            int shield = book.waters.at(0, Book.SHIELD);
+            int flow = book.waters.at(0, Book.FLOW);
             boolean moves = false;
-            for (int i = 0; i < cuts; i++) {
-                for (int j = 0; j < width; j++) {
-                    int here = i * MOST_WIDE + j;
-                    int bare = pulls * (heatsAhead[here] - water) / 100;
-                    int open = Math.max(0, 100 - shield * clays[here]);
-                    int mass = j + 1;
-                    int gain = flow == 0 ? 0 : gained(i, j, flow);
-                    int change = gain - bare * open / 100 / mass;
-                    heats[here] += change;
-                    moves |= change != 0;
-                }
+            for (int j = 0; j < width; j++) {
+                int here = i * MOST_WIDE + j;
+                int own = heatsAhead[here];
+                int mass = j + 1;
+                int lost = pulls * (own - water) / 100 * opens[here] / 100 / mass;
+                heats[here] = own - lost + (flow == 0 ? 0 : gained(i, j, flow));
+                moves |= heats[here] != own;
             }
             return moves;
         }
@@ -1187,24 +1193,14 @@ public final class TwoMinds {
             return sum;
         }
 
-        private void turnCell(int here) {
-            Lines turns = book.turns;
-            int now = heats[here];
-            int ahead = heatsAhead[here];
-            if (kindsNow[here] != 0 || now >= ahead) {
-                return;
-            }
-            for (int t = 0; t < turns.count(); t++) {
-                int below = turns.at(t, Book.BELOW);
-                if (below > now && below <= ahead && turns.at(t, Book.DROP) <= ahead - now) {
-                    kindsNow[here] = turns.at(t, Book.TO_KIND);
-                    turnTenths[here] = tenth;
-                    if (turned < CELLS) {
-                        turnOrder[turned] = here;
-                        turned++;
-                    }
-                    return;
-                }
+        private void turnCell(int here, int kind) {
+            if (turned < ROOM) {
+                kindsNow[here] = kind;
+                rooms[here] = book.kinds.at(kind, Book.ROOM);
+                mostPulls[here] = book.kinds.at(kind, Book.BEARS) * wholePull();
+                turnTenths[here] = tenth;
+                turnOrder[turned] = here;
+                turned++;
             }
         }
 
@@ -1212,25 +1208,26 @@ public final class TwoMinds {
             int swell = book.waters.at(0, Book.SWELL);
             for (int j = 0; j < width; j++) {
                 int here = i * MOST_WIDE + j;
-                sizes[here] = swell * heats[here] / 100 + book.kinds.at(kindsNow[here], Book.ROOM);
+                sizes[here] = swell * heats[here] / 100 + rooms[here];
             }
         }
 
-        /** Cracks the bar at the first cell of a cut that bears less than its pull, if it is whole. */
-        private void strainCut(int i, int curve) {
+        /** Cracks the bar, if it is whole, at the first cell of a cut that bears less than its pull. */
+        private void strainCut(int i) {
             int total = totalOf(i);
+            int curve = curveOf(i);
             for (int j = 0; j < width && crackedCell == NONE; j++) {
                 int here = i * MOST_WIDE + j;
-                int bears = book.kinds.at(kindsNow[here], Book.BEARS);
-                if (Math.abs(pullBy(here, across(j), total, curve)) > bears * wholePull()) {
+                if (Math.abs(pullBy(i, j, total, curve)) > mostPulls[here]) {
                     crackedCell = here;
                 }
             }
         }
 
         // Size times whole pull, less total times all x squared, less curve times x times wide.
-        private int pullBy(int here, int x, int total, int curve) {
-            return (sizes[here] * width - total) * allSquared - curve * x * width;
+        private int pullBy(int i, int j, int total, int curve) {
+            int x = 2 * j - (width - 1);
+            return (sizes[i * MOST_WIDE + j] * width - total) * allSquared - curve * x * width;
         }
 
         private int totalOf(int i) {
@@ -1243,22 +1240,28 @@ public final class TwoMinds {
 
         int curveOf(int i) {
             int sum = 0;
+            int x = 1 - width;
             for (int j = 0; j < width; j++) {
-                sum += sizes[i * MOST_WIDE + j] * across(j);
+                sum += sizes[i * MOST_WIDE + j] * x;
+                x += 2;
             }
             return sum;
         }
 
         int pullOf(int i, int j) {
-            return has(i, j) ? pullBy(i * MOST_WIDE + j, across(j), totalOf(i), curveOf(i)) : 0;
-        }
-
-        private int across(int j) {
-            return 2 * j - (width - 1);
+            return has(i, j) ? pullBy(i, j, totalOf(i), curveOf(i)) : 0;
         }
 
         int wholePull() {
             return width * allSquared;
+        }
+
+        int bendNow() {
+            int sum = 0;
+            for (int i = 0; i < cuts; i++) {
+                sum += curveOf(i);
+            }
+            return sum;
         }
 
         boolean has(int i, int j) {
@@ -1291,18 +1294,6 @@ public final class TwoMinds {
 
         int crackAcross() {
             return crackedCell % MOST_WIDE;
-        }
-
-        int bendNow() {
-            return bendNow;
-        }
-
-        int leastBend() {
-            return leastBend;
-        }
-
-        int greatestBend() {
-            return greatestBend;
         }
 
         int heatOf(int i, int j) {
@@ -1382,6 +1373,56 @@ public final class TwoMinds {
         }
     }
 
+    /** The bar that is worked: its cells, and how far it has bent so far. */
+    private static final class Bar {
+        final Cells cells = new Cells();
+        private int firstHeat;
+        private int leastBend;
+        private int greatestBend;
+
+        void fit(Book told) {
+            cells.fit(told, told.bars.at(0, Book.LONG));
+            heatTo(0);
+        }
+
+        void heatTo(int v) {
+            firstHeat = v;
+            cells.heatTo(v);
+            // One heat and one kind everywhere: it is straight in tenth 0.
+            leastBend = 0;
+            greatestBend = 0;
+        }
+
+        /** How many tenths went till it cracked. */
+        int coolFor(int n) {
+            int went = 0;
+            while (went < n && !cells.isCracked()) {
+                cells.coolOnce();
+                went++;
+                int bend = cells.bendNow();
+                leastBend = Math.min(leastBend, bend);
+                greatestBend = Math.max(greatestBend, bend);
+            }
+            return went;
+        }
+
+        // Clay changes in tenth 0 alone, so that the same tenths come about once more.
+        void goBackTo(int earlier) {
+            if (earlier != cells.tenth()) {
+                heatTo(firstHeat);
+                coolFor(earlier);
+            }
+        }
+
+        int leastBend() {
+            return leastBend;
+        }
+
+        int greatestBend() {
+            return greatestBend;
+        }
+    }
+
     /** Trials of one cut alone: what it would become, were it heated and clayed so. */
     private static final class Trials {
         private static final int TENTHS = 60;
@@ -1392,8 +1433,8 @@ public final class TwoMinds {
         private static final int CHANGES = 4;
         private static final int STEP = 20;
 
-        private final Bar cut = new Bar();
-        private final int[] clays = new int[Bar.MOST_WIDE];
+        private final Cells cut = new Cells();
+        private final int[] clays = new int[Cells.MOST_WIDE];
         private Book book = new Book();
 
         void fit(Book told) {
@@ -1645,7 +1686,7 @@ public final class TwoMinds {
         }
 
         private static int spread(int[] layers) {
-            int least = Integer.MAX_VALUE;
+            int least = MOST_DIRT;
             int greatest = 0;
             for (int k = 0; k < layers.length; k++) {
                 least = Math.min(least, layers[k]);
