@@ -77,6 +77,8 @@ public final class BarTest {
         x.again(0);
         CHECK.due("clay in tenth 0 again", x, x.clay(0, 0, 1), true, 0);
         cells(x, "then", 2, 1, 0, 0, 3);
+        CHECK.due("clay that is taken off", x, x.clay(0, 0, 0), true, 0);
+        cells(x, "then", 2, 0, 0, 0, 3);
     }
 
     private static void tenths() {
@@ -192,6 +194,14 @@ public final class BarTest {
         CHECK.due("a crack in the second cut", clayed, clayed.go(10), 3, 0);
         CHECK.due("its i", clayed, clayed.crack(1), 1, 0);
         CHECK.due("its j", clayed, clayed.crack(2), 1, 0);
+
+        TwoMinds atEdge = Check.house(brittle(9).replace("shield 0", "shield 60"));
+        atEdge.heat(900);
+        atEdge.clay(0, 1, 2);
+        atEdge.clay(1, 1, 2);
+        CHECK.due("glass on both sides of raw", atEdge, atEdge.go(10), 4, 0);
+        CHECK.due("its i", atEdge, atEdge.crack(1), 0, 0);
+        CHECK.due("its j", atEdge, atEdge.crack(2), 0, 0);
     }
 
     /** Heat 800 falls to 400 and then to 200. */
@@ -287,5 +297,11 @@ public final class BarTest {
         CHECK.due("not cold while one cell isn't", x, x.cold(), 0, 0);
         x.go(10);
         CHECK.due("cold in the end", x, x.cold(), 1, 0);
+        x.heat(150);
+        x.clay(1, 1, 0);
+        x.clay(0, 0, 3);
+        x.go(3);
+        CHECK.due("an edge that is hot alone", x.cell(0, 0, 0), 130);
+        CHECK.due("is not cold", x, x.cold(), 0, 0);
     }
 }

@@ -136,6 +136,9 @@ public final class BookTest {
         fault("5", 1, 0);
         fault("steel", 1, 0);
         fault("bar long one", 1, 9);
+        fault("car long 1 wide 2", 1, 0);
+        fault("bar long 1 side 2", 1, 11);
+        fault("kind zinc hard 0 room 0 bears 1;kind azinc hard 0 room 0 bears 1;kind zinc", 3, 70);
         fault("bar long 1 long 2", 1, 11);
         fault("bar long 0001", 1, 9);
         fault("bar long 9999", 1, 9);

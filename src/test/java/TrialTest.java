@@ -18,6 +18,7 @@ public final class TrialTest {
         lowers();
         whys();
         byEye();
+        sixtyTenths();
         trialsLeaveTheBar();
         CHECK.end();
     }
@@ -48,6 +49,11 @@ public final class TrialTest {
         CHECK.due("aim(900, 1, 50), no drop", gap, gap.aim(900, 1, 50), 220, 0);
         CHECK.due("aim(900, 2, 50), no drop", gap, gap.aim(900, 2, 50), 200, 0);
         CHECK.due("aim(900, 0, 50), no drop", gap, gap.aim(900, 0, 50), 222, 0);
+        // Clay 2 lets every cell fall past 500 by 33 at least, clay 3 by 26 at most.
+        TwoMinds thick = Check.house(book(10).replace("shield 50", "shield 30").replace("drop 100", "drop 33"));
+        CHECK.due("aim(900, 0, 50), all the clay there is", thick, thick.aim(900, 0, 50), 333, 0);
+        TwoMinds two = Check.house(book(10).replace("wide 3", "wide 2"));
+        CHECK.due("aim(900, 3, 50), two across", two, two.aim(900, 3, 50), -1, 2);
     }
 
     private static void scatters() {
@@ -148,6 +154,25 @@ public final class TrialTest {
         TwoMinds gap = Check.house(book(10).replace("drop 100", "drop 0"));
         gap.clay(0, 1, 2);
         CHECK.due("a cloud ahead of a gap", gap, gap.eye(1, 0, 2, 1, 50), 400, 0);
+    }
+
+    /** A bar of one cut is put into water for 60 tenths, by every heat that looks so: slowly, so that all count. */
+    private static void sixtyTenths() {
+        String text = "bar long 1 wide 3;water 0 pulls 2 shield 10 flow 0 swell 5;kind raw hard 0 room 0 bears 900"
+            + ";kind glass hard 90 room 30 bears 9;turn glass below 500 drop 0;red all 300 to 999";
+        int cracks = 0;
+        int clouds = 0;
+        for (int heat = 300; heat <= 999; heat++) {
+            TwoMinds x = Check.house(text);
+            x.heat(heat);
+            x.go(60);
+            cracks += x.size(8);
+            clouds += x.size(8) == 0 && x.cloud(0, 90) == 1 ? 1 : 0;
+        }
+        TwoMinds x = Check.house(text);
+        CHECK.yes("some crack and some don't", cracks > 0 && clouds > 0);
+        CHECK.due("how many crack in 60 tenths", x, x.eye(0, 0, 1, 0, 0), cracks, 0);
+        CHECK.due("how many have a cloud then", x, x.eye(0, 0, 2, 1, 90), clouds, 0);
     }
 
     private static void trialsLeaveTheBar() {
