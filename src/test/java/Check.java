@@ -1,8 +1,15 @@
+import java.io.IOException;
+import java.nio.file.Files;
+import java.nio.file.Path;
 import java.util.NoSuchElementException;
 
 /** What the tests share: feeding texts, and counting the answers that are not as due. */
 final class Check {
+    private static final Path DOCUMENT = Path.of("../shared/DOC.md");
+
     private final String test;
+    private String document = "";
+    private String sentence = "";
     private int wrong;
 
     Check(String test) {
@@ -12,8 +19,27 @@ final class Check {
     void due(String what, long got, long want) {
         if (got != want) {
             wrong++;
-            System.out.println(test + ": " + what + " answered " + got + ", due is " + want);
+            System.out.println(test + ": " + sentence + what + " answered " + got + ", due is " + want);
         }
+    }
+
+    /** The words of the document that the checks behind this call hold; they must stand there. */
+    void says(String words) {
+        sentence = "'" + words + "': ";
+        if (document.isEmpty()) {
+            try {
+                document = plain(Files.readString(DOCUMENT));
+            } catch (IOException e) {
+                document = "?";
+            }
+        }
+        if (document.length() > 1) {
+            yes("the document says so", document.contains(plain(words)));
+        }
+    }
+
+    private static String plain(String text) {
+        return text.replaceAll("\\s+", " ").trim();
     }
 
     void yes(String what, boolean got) {
