@@ -1145,7 +1145,9 @@ public final class TwoMinds {
             tenth++;
             boolean moves = false;
             for (int i = 0; i < cuts; i++) {
-                moves |= coolCut(i);
+                if (coolCut(i)) {
+                    moves = true;
+                }
                 for (int j = 0; j < width; j++) {
                     int here = i * MOST_WIDE + j;
                     int kind = kindsNow[here] == 0 ? book.kindOfFall(heatsAhead[here], heats[here]) : 0;
@@ -1169,7 +1171,9 @@ public final class TwoMinds {
                 int mass = j + 1;
                 int lost = pulls * (own - water) / 100 * opens[here] / 100 / mass;
                 heats[here] = own - lost + (flow == 0 ? 0 : gained(i, j, flow));
-                moves |= heats[here] != own;
+                if (heats[here] != own) {
+                    moves = true;
+                }
             }
             return moves;
         }

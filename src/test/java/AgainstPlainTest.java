@@ -3,8 +3,9 @@ import java.util.Random;
 
 /** Runs of calls by seed, TwoMinds held against PlainHouse: ordinary numbers, edges and wrong ones. */
 public final class AgainstPlainTest {
-    private static final int RUNS = 100;
-    private static final int CALLS = 512;
+    private static final int RUNS = 600;
+    // Some seven calls of the house each, with those that look at it: an object is used for 512 at most.
+    private static final int CALLS = 60;
     private static final int[] EDGES = {Integer.MIN_VALUE, -1000, -2, -1, 0, 1, 2, 3, 4, 5, 7, 8, 9, 19, 20, 21,
         59, 60, 61, 98, 99, 100, 101, 255, 256, 399, 400, 401, 699, 700, 701, 998, 999, 1000, 9999, 10000,
         Integer.MAX_VALUE};

@@ -6,6 +6,7 @@ public final class BarEdgeTest {
         heated();
         cellsAtOnce();
         neighboursOneByOne();
+        neighboursByHundred();
         neighboursThatThereAre();
         shieldNotBelowNought();
         divisionsInTurn();
@@ -105,6 +106,40 @@ public final class BarEdgeTest {
         x.go(1);
         // 75, 75 and 38 more than its own: none of them gives 1, though all of them together would.
         heats(x, 1, 75 - 37, 113 - 28);
+    }
+
+    /** One cell alone meets the water: what its neighbours give it, and how much less they have then. */
+    private static void neighboursByHundred() {
+        CHECK.says("flow times (a neighbour's HEAT less its own) by 100");
+        int[][] due = {{1, 198, 0}, {1, 199, 0}, {1, 200, 1}, {1, 398, 1}, {1, 400, 2}, {11, 18, 0}, {12, 18, 1},
+            {10, 38, 1}, {10, 39, 1}, {10, 40, 2}};
+        for (int[] d : due) {
+            TwoMinds x = plain(1, 3, "water 0 pulls 50 shield 50 flow " + d[0] + " swell 0");
+            x.heat(d[1]);
+            x.clay(0, 1, 2);
+            x.clay(0, 2, 2);
+            x.go(1);
+            int half = d[1] - d[1] / 2;
+            heats(x, 0, half, d[1], d[1]);
+            x.go(1);
+            int flows = d[0] * (d[1] - half) / 100;
+            CHECK.due("flow " + d[0] + " of heat " + d[1], flows, d[2]);
+            heats(x, 0, half - half / 2 + flows, d[1] - flows, d[1]);
+        }
+        for (int[] d : due) {
+            TwoMinds x = plain(3, 2, "water 0 pulls 50 shield 50 flow " + d[0] + " swell 0");
+            x.heat(d[1]);
+            for (int k = 0; k < 6; k++) {
+                x.clay(k / 2, k % 2, k == 2 ? 0 : 2);
+            }
+            x.go(1);
+            int half = d[1] - d[1] / 2;
+            heats(x, 1, half, d[1]);
+            x.go(1);
+            heats(x, 0, d[1] - d[2], d[1]);
+            heats(x, 1, half - half / 2 + 3 * d[2], d[1] - d[2]);
+            heats(x, 2, d[1] - d[2], d[1]);
+        }
     }
 
     private static void neighboursThatThereAre() {
@@ -285,8 +320,10 @@ public final class BarEdgeTest {
             CHECK.due("curve(0) of " + wide, x, x.curve(0), due[wide - 2], 0);
             CHECK.due("curve(6) of " + wide, x, x.curve(6), due[wide - 2], 0);
             CHECK.due("curve(7) of " + wide, x, x.curve(7), 0, 0);
+            CHECK.says("BEND: all CUTS' CURVES together.");
             CHECK.due("bend(0) of " + wide, x, x.bend(0), 7 * due[wide - 2], 0);
         }
+        CHECK.says("(above 0: the back is the longer)");
         TwoMinds back = Check.house(edgeOnly(1, 3, 999, 999).replace("swell 0", "swell 10").replace("room 30", "room 0"));
         back.heat(900);
         back.go(1);
@@ -350,6 +387,7 @@ public final class BarEdgeTest {
     }
 
     private static void cracksLeast() {
+        CHECK.says("Where it CRACKED: 0 TENTH, 1 i, 2 j; -2 if it didn't.");
         CHECK.says("(least i, then j)");
         crack("all cuts crack", gone(edgeOnly(8, 3, 9, 4), 900, 1), 1, 0, 0);
         TwoMinds last = Check.house(edgeOnly(8, 3, 9, 999));
@@ -412,6 +450,7 @@ public final class BarEdgeTest {
     }
 
     private static void clays() {
+        CHECK.says("each with a HEAT, a KIND, CLAY 0 .. 3.");
         CHECK.says("A CELL's CLAY becomes t: true");
         TwoMinds x = Check.house(edgeOnly(8, 5, 999, 999));
         int[][] corners = {{0, 0}, {0, 4}, {7, 0}, {7, 4}};

@@ -86,7 +86,7 @@ public final class FaceTest {
             if (run % 10 != 0) {
                 Check.book(x, new BookMaker(random).text());
             }
-            for (int k = 0; k < 512; k++) {
+            for (int k = 0; k < 470; k++) {
                 Method m = methods[random.nextInt(methods.length)];
                 if (Modifier.isPublic(m.getModifiers())) {
                     callWith(random, x, m);

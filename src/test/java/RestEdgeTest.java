@@ -30,6 +30,7 @@ public final class RestEdgeTest {
         betterLessWorse();
         firstAndAboveNought();
         mostBlades();
+        nextAgain();
         sizes();
         sizesOfNothing();
         troubles();
@@ -53,6 +54,7 @@ public final class RestEdgeTest {
     // ---- folds
 
     private static void laysAndLayers() {
+        CHECK.says("DIRT of 8 LAYERS (0 .. 9,999) and CARBON (0 .. 9,999)");
         CHECK.says("DIRT of a LAYER (0 .. 7), or CARBON (8), becomes v");
         for (int layer = 0; layer <= 8; layer++) {
             TwoMinds x = Check.house(WHOLE);
@@ -346,6 +348,7 @@ public final class RestEdgeTest {
     private static void blades() {
         CHECK.says("LEARNED: blades told by HEAT, water, CLAY (0 .. 3) and how it went (0 cracked, 1 soft, 2 good): up to"
             + " 20.");
+        CHECK.says("A blade is LEARNED: how many there are.");
         TwoMinds x = Check.house(WHOLE);
         int[][] ends = {{0, 0, 0, 0}, {999, 999, 3, 2}, {0, 999, 0, 1}, {999, 0, 3, 0}};
         for (int k = 0; k < 20; k++) {
@@ -401,6 +404,7 @@ public final class RestEdgeTest {
     }
 
     private static void betterLessWorse() {
+        CHECK.says("the one with the greatest number of pairs of blades");
         CHECK.says("and went better, less those in which it went worse");
         next("as well", -2, 5, 5, 1, 1, 6, 5, 1, 1);
         next("once better, once worse", -2, 5, 5, 1, 0, 6, 5, 1, 1, 5, 9, 1, 1, 6, 9, 1, 0);
@@ -436,6 +440,28 @@ public final class RestEdgeTest {
         x.learn(700, 7, 0, 2);
         CHECK.due("the 21st doesn't", x, x.next(), 2, 0);
         CHECK.due("the first counts", nextOfFirst(), 5);
+    }
+
+    private static void nextAgain() {
+        CHECK.says("NEXT; -2 if there is none.");
+        TwoMinds x = Check.house(WHOLE);
+        CHECK.due("next of nothing", x, x.next(), -2, 0);
+        x.learn(5, 5, 1, 0);
+        CHECK.due("next of one", x, x.next(), -2, 0);
+        x.learn(6, 5, 1, 1);
+        for (int k = 0; k < 9; k++) {
+            CHECK.due("next, asked again", x, x.next(), 0, 0);
+        }
+        x.learn(50, 10, 1, 0);
+        x.learn(50, 20, 1, 1);
+        x.learn(60, 10, 2, 0);
+        x.learn(60, 20, 2, 1);
+        CHECK.due("next of what is there now", x, x.next(), 1, 0);
+        x.learn(70, 10, 3, 1);
+        x.learn(70, 20, 3, 0);
+        x.learn(80, 10, 0, 1);
+        x.learn(80, 20, 0, 0);
+        CHECK.due("next of heat, as water is none now", x, x.next(), 0, 0);
     }
 
     private static int nextOfFirst() {

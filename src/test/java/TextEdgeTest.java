@@ -15,6 +15,8 @@ public final class TextEdgeTest {
         bytes();
         tapeOfWholeRoom();
         booksAnew();
+        oneBookBehindAnother();
+        booksOfNoBytes();
         faultyBooks();
         faultsAndPlaces();
         blanks();
@@ -120,6 +122,17 @@ public final class TextEdgeTest {
         CHECK.due("all bytes but the last WHOLE's two", x, x.book(698), -1, 4);
         CHECK.due("its fault", x.fault(), 1);
         CHECK.due("its place", x.where(), 698);
+        fault(" ".repeat(699) + "b", 1, 699);
+        fault(" ".repeat(699) + "5", 1, 699);
+        fault(" ".repeat(699) + ";", 1, 699);
+        fault(" ".repeat(700), 1, 700);
+        fault(" ".repeat(697) + "bar", 1, 700);
+        fault(" ".repeat(694) + "kind a", 1, 700);
+        fault(" ".repeat(694) + "turn a", 2, 699);
+        fault(" ".repeat(690) + "bar long 8", 1, 700);
+        fault(" ".repeat(690) + "bar long 9", 4, 699);
+        fault(BAR + " ".repeat(696 - BAR.length()) + ";bar", 3, 697);
+        fault("red a 100 to 200;smith " + " ".repeat(676) + "a", 3, 699);
     }
 
     private static void booksAnew() {
@@ -136,7 +149,6 @@ public final class TextEdgeTest {
             TwoMinds fresh = new TwoMinds();
             fresh.book(0);
             Check.book(fresh, WHOLE);
-            CHECK.yes("as new, but for what it was: " + scene, Look.quiet(old).equals(Look.quiet(fresh)));
             CHECK.yes("wholly as new: " + scene, Look.whole(old).equals(Look.whole(fresh)));
         }
         TwoMinds heated = good(WHOLE, 2);
@@ -150,6 +162,45 @@ public final class TextEdgeTest {
             CHECK.due("layer " + layer, heated.layer(layer), 0);
         }
         CHECK.due("learned", heated.size(10), 0);
+    }
+
+    private static void oneBookBehindAnother() {
+        CHECK.says("are the BOOK from now on");
+        String full = fullText();
+        TwoMinds x = new TwoMinds();
+        for (int k = 0; k < 4; k++) {
+            CHECK.due("a full book", x, Check.book(x, full), 5, 0);
+            CHECK.due("its turns", x.size(3), 6);
+            CHECK.due("its smiths", x.size(6), 5);
+            CHECK.due("a book that ends too early", x, Check.book(x, full.substring(0, full.length() - 1)), -1, 4);
+            CHECK.due("the full book stays", x.size(5), 6);
+            CHECK.due("a small book", x, Check.book(x, WHOLE), 2, 0);
+            for (int what = 3; what <= 6; what++) {
+                CHECK.due("size(" + what + ") of the small book", x.size(what), 0);
+            }
+            CHECK.due("a book of no bar", x, Check.book(x, WATER + ";" + KIND_A + ";" + KIND_B), -1, 4);
+            CHECK.due("its fault", x.fault(), 6);
+            CHECK.due("a book of one kind", x, Check.book(x, BAR + ";" + WATER + ";" + KIND_A), -1, 4);
+            CHECK.due("its fault", x.fault(), 6);
+            CHECK.due("a turn to a kind of the book ahead", x, Check.book(x, KIND_A + ";turn b below 100"), -1, 4);
+            CHECK.due("its fault", x.fault(), 2);
+        }
+    }
+
+    private static void booksOfNoBytes() {
+        CHECK.says("The first n bytes of THE TAPE");
+        for (String text : new String[] {" ", WHOLE, "b", "?"}) {
+            TwoMinds x = new TwoMinds();
+            Check.feed(x, text);
+            CHECK.due("book(0) of '" + text + "'", x, x.book(0), -1, 4);
+            CHECK.due("its fault", x.fault(), 1);
+            CHECK.due("its place", x.where(), 0);
+            CHECK.due("the tape", x.size(11), 0);
+        }
+        TwoMinds y = new TwoMinds();
+        Check.feed(y, " " + WHOLE);
+        CHECK.due("book(1) of a blank", y, y.book(1), -1, 4);
+        CHECK.due("its place", y.where(), 1);
     }
 
     private static void faultyBooks() {
@@ -451,6 +502,10 @@ public final class TextEdgeTest {
             good(WHOLE.replace("kind b", "kind " + word) + ";turn " + word + " below 100 drop 0", 2);
         }
         good(WHOLE + ";red to 100 to 200;stone days days 1 shows 1;smith smiths 1", 2);
+        fault("red a100 to 200;smith a 1", 3, 22);
+        fault("red a 100 to 200;smith a1", 3, 23);
+        fault("red a 100 to 200;smith b1;stone a days", 3, 32);
+        fault("red r100 to 200;smith r", 3, 22);
         fault(KIND_A + ";turn b below 100 drop 0;" + KIND_B, 2, KIND_A.length() + 6);
         fault("turn b below 100 drop 0;" + KIND_A + ";" + KIND_B, 2, 5);
         good(KIND_A + ";" + KIND_B + ";turn b below 100 drop 0;turn b below 100 drop 0;" + BAR + ";" + WATER, 2);
@@ -464,10 +519,14 @@ public final class TextEdgeTest {
         return text.toString();
     }
 
+    private static String fullText() {
+        return BAR + ";" + WATER + list("kind k# hard 9 room 9 bears 9", 5) + list("turn ke below 100 drop 0", 6)
+            + list("red r# 100 to 200", 6) + list("stone s# days 1 shows 0", 6) + list("smith t# 1,2,3,4", 5);
+    }
+
     private static void fullBook() {
         CHECK.says("2 to 5 KINDS, up to 6 turns, 6 reds, 6 stones, 5 smiths.");
-        String full = BAR + ";" + WATER + list("kind k# hard 9 room 9 bears 9", 5) + list("turn ke below 100 drop 0", 6)
-            + list("red r# 100 to 200", 6) + list("stone s# days 1 shows 0", 6) + list("smith t# 1,2,3,4", 5);
+        String full = fullText();
         CHECK.yes("the full book has room on the tape: " + full.length(), full.length() <= 700);
         TwoMinds x = good(full, 5);
         int[] sizes = {2, 3, 5, 6, 6, 6, 5};
@@ -506,6 +565,11 @@ public final class TextEdgeTest {
                 if (!number && !name) {
                     fault(ahead + tokens[k] + "x", 1, place);
                     fault(ahead + tokens[k].substring(1), 1, place);
+                    for (int letter = 0; letter < tokens[k].length(); letter++) {
+                        StringBuilder other = new StringBuilder(tokens[k]);
+                        other.setCharAt(letter, 'q');
+                        fault(ahead.toString() + other, 1, place);
+                    }
                 }
                 ahead.append(tokens[k]).append(' ');
             }

@@ -190,6 +190,11 @@ public final class TrialEdgeTest {
         aims(text("water 20 pulls 40 shield 10 flow 6 swell 20", 16, 39, 15, 20), 4, 900, 4, 0, 3002);
         aims(text("water 80 pulls 30 shield 40 flow 12 swell 50", 30, 34, 30, 30), 4, 650, 3, 90, 2000);
         aims(text("water 20 pulls 50 shield 60 flow 12 swell 0", 1, 9, 2, 80), 4, 900, 4, 0, 21);
+        // Clay 0, 0, 2 has less at the edge, but more in all, than 1, 0, 0.
+        aims(text("water 40 pulls 30 shield 10 flow 0 swell 20", 23, 42, 19, 20), 3, 650, 3, 0, 1);
+        aims(text("water 20 pulls 20 shield 60 flow 12 swell 10", 11, 28, 3, 30), 3, 800, 3, 0, 21);
+        aims(text("water 60 pulls 50 shield 40 flow 6 swell 40", 24, 6, 22, 90), 3, 700, 1, 90, 11);
+        aims(text("water 80 pulls 50 shield 40 flow 0 swell 10", 22, 42, 11, 0), 3, 850, 3, 0, 101);
     }
 
     private static void mostClay() {
@@ -228,6 +233,12 @@ public final class TrialEdgeTest {
         // Water of -99 would be 0; water of 99 cracks what is of heat 0.
         CHECK.due("scatter(0, 0, 99)", x, x.scatter(0, 0, 99), 3, 0);
         CHECK.due("scatter(0, 0, 0)", x, x.scatter(0, 0, 0), 0, 0);
+        // In water of 31 heat 0 doesn't crack and heat 1 does.
+        TwoMinds mild = Check.house(TENDER.replace("water 0", "water 31"));
+        CHECK.due("scatter(0, 0, 0) in water of 31", mild, mild.scatter(0, 0, 0), 0, 0);
+        CHECK.due("scatter(1, 0, 0) in water of 31", mild, mild.scatter(1, 0, 0), 9, 0);
+        CHECK.due("scatter(1, 1, 0) in water of 31", mild, mild.scatter(1, 1, 0), 3 + 3 * bar(TENDER, 31, 2), 0);
+        CHECK.due("scatter(1, 9, 0) in water of 31", mild, mild.scatter(1, 9, 0), 3 + 3 * bar(TENDER, 31, 10), 0);
         // Heat 999 falls by 99 to 900, then by 90; more heat would fall past 900 by 95 and more.
         TwoMinds hot = Check.house(text("water 0 pulls 10 shield 0 flow 0 swell 0", 9, 30, 9, 95)
             .replace("below 500", "below 900"));
@@ -238,6 +249,10 @@ public final class TrialEdgeTest {
         CHECK.due("scatter(500, 0, 0) in warm water", warm, warm.scatter(500, 0, 0), 9, 0);
         CHECK.due("scatter(500, 0, 2) in warm water", warm, warm.scatter(500, 0, 2), 6, 0);
         CHECK.due("scatter(500, 0, 99) in warm water", warm, warm.scatter(500, 0, 99), 6, 0);
+    }
+
+    private static int bar(String text, int water, int heat) {
+        return tried(text.replace("water 0", "water " + water), heat).size(8);
     }
 
     private static void scatterOfNine() {
@@ -357,6 +372,7 @@ public final class TrialEdgeTest {
     }
 
     private static void whyBits() {
+        CHECK.says("WHY a TRIAL by a HEAT (clayed as CUT 0) CRACKS, as bits.");
         CHECK.says("WHY: of these four, as bits, those by which alone a TRIAL that CRACKS doesn't.");
         TwoMinds x = clayed(TENDER, "020");
         CHECK.due("heat 20 less, water 20 warmer: by 5 both don't", x, x.why(25), 3, 0);
@@ -393,6 +409,8 @@ public final class TrialEdgeTest {
     private static void eyeCounts() {
         CHECK.says("of all HEATS (0 .. 999) that look so, how many as TRIALS (clayed as CUT 0) CRACK, how many don't and"
             + " have CLOUD of a told width.");
+        CHECK.says("BY EYE: what 0 how many HEATS look so, 1 of these CRACK, 2 don't and have CLOUD of a width, HARD by so"
+            + " much.");
         String text = text("water 50 pulls 50 shield 30 flow 12 swell 20", 6, 25, 9, 60) + ";red r 560 to 620"
             + ";red s 600 to 640";
         for (int light = 0; light <= 3; light += 3) {
@@ -430,6 +448,12 @@ public final class TrialEdgeTest {
             CHECK.due("eye of 999 that cracks", x, x.eye(0, light, 1, 0, 0), 1, 0);
             CHECK.due("eye of 999 that doesn't", x, x.eye(0, light, 2, 3, 0), 0, 0);
             CHECK.due("eye of nothing that cracks", x, x.eye(3, light, 1, 0, 0), 0, 0);
+        }
+        TwoMinds tough = Check.house(TENDER.replace("bears 1", "bears 999") + ";red a 999 to 999;red b 100 to 998");
+        for (int light = 0; light <= 3; light++) {
+            CHECK.due("eye of 999 that bears it", tough, tough.eye(0, light, 2, 3, 0), 1, 0);
+            CHECK.due("eye of 999 that cracks", tough, tough.eye(0, light, 1, 3, 0), 0, 0);
+            CHECK.due("eye of the rest that bears it", tough, tough.eye(1, light, 2, 3, 0), 899, 0);
         }
     }
 }
