@@ -34,13 +34,14 @@ public final class TwoMinds {
     private static final int LAST_TENTH = 400;
 
     private final byte[] tape = new byte[TAPE_ROOM];
-    private final Reader reader = new Reader();
-    private final Bar bar = new Bar();
-    private final Trials trials = new Trials();
     private final Billet billet = new Billet();
     private final Blades blades = new Blades();
+    // Two books in all: a text is read into the spare one, so that a faulty one leaves the told one.
     private Book told = new Book();
     private Book spare = new Book();
+    private final Reader reader = new Reader(spare);
+    private final Bar bar = new Bar(told);
+    private final Trials trials = new Trials(told);
     private boolean booked;
     private int taped;
     private int latestFault;
@@ -827,9 +828,13 @@ public final class TwoMinds {
         private final long[] names = new long[MOST_NAMES];
         private final int[] kindNamed = new int[MOST_NAMES];
         private int nameCount;
-        private Book book = new Book();
+        private Book book;
         private int latestWhole;
         private int fault;
+
+        Reader(Book empty) {
+            book = empty;
+        }
 
         /** The fault of the first n bytes, 0 if they are a book. */
         int readInto(Book empty, byte[] text, int n) {
@@ -1088,7 +1093,7 @@ public final class TwoMinds {
         private final int[] turnOrder = new int[ROOM];
         private int[] heats = new int[ROOM];
         private int[] heatsAhead = new int[ROOM];
-        private Book book = new Book();
+        private Book book;
         private int cuts;
         private int width;
         private int allSquared;
@@ -1096,6 +1101,11 @@ public final class TwoMinds {
         private int tenth;
         private int turned;
         private int crackedCell = NONE;
+
+        /** No cells, till fit() tells how many there are. */
+        Cells(Book empty) {
+            book = empty;
+        }
 
         void fit(Book told, int cutsWanted) {
             book = told;
@@ -1379,10 +1389,14 @@ public final class TwoMinds {
 
     /** The bar that is worked: its cells, and how far it has bent so far. */
     private static final class Bar {
-        final Cells cells = new Cells();
+        final Cells cells;
         private int firstHeat;
         private int leastBend;
         private int greatestBend;
+
+        Bar(Book empty) {
+            cells = new Cells(empty);
+        }
 
         void fit(Book told) {
             cells.fit(told, told.bars.at(0, Book.LONG));
@@ -1437,9 +1451,14 @@ public final class TwoMinds {
         private static final int CHANGES = 4;
         private static final int STEP = 20;
 
-        private final Cells cut = new Cells();
+        private final Cells cut;
         private final int[] clays = new int[Cells.MOST_WIDE];
-        private Book book = new Book();
+        private Book book;
+
+        Trials(Book empty) {
+            cut = new Cells(empty);
+            book = empty;
+        }
 
         void fit(Book told) {
             book = told;

@@ -1,12 +1,17 @@
 import java.io.IOException;
+import java.lang.reflect.Array;
 import java.lang.reflect.Field;
 import java.lang.reflect.Method;
 import java.lang.reflect.Modifier;
 import java.nio.file.Files;
 import java.nio.file.Path;
+import java.util.ArrayList;
 import java.util.Arrays;
+import java.util.Collections;
+import java.util.IdentityHashMap;
 import java.util.NoSuchElementException;
 import java.util.Random;
+import java.util.Set;
 import java.util.TreeSet;
 
 /** The face of the class, what of LANGUAGE.md can be seen from here, and calls with any numbers at all. */
@@ -26,6 +31,7 @@ public final class FaceTest {
         face();
         source();
         anyNumbers();
+        roomOfOne();
         CHECK.end();
     }
 
@@ -92,6 +98,62 @@ public final class FaceTest {
                     callWith(random, x, m);
                 }
             }
+        }
+    }
+
+    /** All calls of one run live in one room: what an object holds is kept small, and no call makes more. */
+    private static void roomOfOne() {
+        TwoMinds x = new TwoMinds();
+        int[] fresh = held(x);
+        CHECK.yes("objects and arrays in a new one: " + fresh[0], fresh[0] <= 80);
+        CHECK.yes("fields and elements in a new one: " + fresh[1], fresh[1] <= 2500);
+        Check.book(x, "bar long 8 wide 5;water 9 pulls 40 shield 30 flow 5 swell 9;kind a hard 1 room 0 bears 999;"
+            + "kind b hard 9 room 5 bears 999;turn b below 600 drop 9;red r 100 to 999;stone s days 1 shows 0;smith t 2");
+        x.heat(900);
+        x.go(60);
+        x.again(30);
+        x.aim(900, 5, 5);
+        x.lowers(900, 5, 5);
+        x.eye(0, 0, 2, 1, 5);
+        x.learn(1, 1, 1, 1);
+        Check.book(x, "bar long");
+        int[] used = held(x);
+        CHECK.yes("no more objects and arrays in a used one: " + used[0], used[0] <= fresh[0]);
+        CHECK.yes("no more fields and elements in a used one: " + used[1], used[1] <= fresh[1]);
+    }
+
+    /** How many objects and arrays, how many fields and elements can be reached from one object. */
+    private static int[] held(Object first) {
+        Set<Object> seen = Collections.newSetFromMap(new IdentityHashMap<>());
+        ArrayList<Object> open = new ArrayList<>();
+        seen.add(first);
+        open.add(first);
+        int inside = 0;
+        while (!open.isEmpty()) {
+            Object o = open.remove(open.size() - 1);
+            if (o.getClass().isArray()) {
+                inside += Array.getLength(o);
+                continue;
+            }
+            for (Field f : o.getClass().getDeclaredFields()) {
+                if (!Modifier.isStatic(f.getModifiers())) {
+                    inside++;
+                    Object part = f.getType().isPrimitive() ? null : valueOf(f, o);
+                    if (part != null && seen.add(part)) {
+                        open.add(part);
+                    }
+                }
+            }
+        }
+        return new int[] {seen.size(), inside};
+    }
+
+    private static Object valueOf(Field f, Object o) {
+        try {
+            f.setAccessible(true);
+            return f.get(o);
+        } catch (IllegalAccessException e) {
+            throw new IllegalStateException(e);
         }
     }
 
